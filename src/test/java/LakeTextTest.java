@@ -52,7 +52,7 @@ public final class LakeTextTest {
         good(BOAT + "boat first trust 0 at 2 1;boat most trust 99 at 0 0;hand often skill 0;hand least skill 9;", 9);
         good(BOAT + "dread((((((depth))))));grows trust+fear;falls min(max(trust,fear),9999);", 8);
         good(BOAT + "dread depth*wreck/home+sky-balks*skill+ahead-bold;", 6);
-        good("lake 3;boat".substring(0, 7) + "dread 0;", 2);
+        good("lake 3;dread 0;", 2);
         good("lake 3;rain at 5;row hsd;", 3);
         good(ROWS + "boat abcdef trust 5 at 0 0;boat abcde trust 5 at 0 0;boat z trust 5 at 0 0;", 6);
     }
@@ -113,7 +113,7 @@ public final class LakeTextTest {
         faulty(1, ROWS + "boat a trust 5 at |;");
         faulty(1, ROWS + "boat a trust 5 at 0|;");
         faulty(1, ROWS + "boat a trust 5 at 0|x");
-        faulty(1, ROWS + "boat a trust 5 at 0,0".replace(",", "|,"));
+        faulty(1, ROWS + "boat a trust 5 at 0|,0");
         faulty(1, ROWS + "boat a trust 5 at 0 0|");
         faulty(1, ROWS + "boat a trust 5 at 0 0 |0");
         faulty(1, ROWS + "hand a |trust");
