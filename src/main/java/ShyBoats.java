@@ -1079,7 +1079,7 @@ public final class ShyBoats {
         }
 
         int cells() {
-            return columns * rows;
+            return Math.min(MOST_CELLS, columns * rows);
         }
 
         boolean isCell(int cell) {
