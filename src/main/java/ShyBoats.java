@@ -25,6 +25,7 @@ public final class ShyBoats {
     private static final int MOST_HOUR = 999;
     private static final int MOST_COINS = 999999;
     private static final int MOST_TRUST = 99;
+    private static final int MOST_BALKS = 99;
     private static final int WAYS = 4;
     private static final int IMAGE_HEAD = 5;
     private static final int IMAGE_BOAT = 4;
@@ -569,7 +570,8 @@ public final class ShyBoats {
             case OFTEN: return many;
             case TOTAL: return total;
             case MOST: return most;
-            default: return least;
+            case LEAST: return least;
+            default: return NOTHING;
         }
     }
 
@@ -601,7 +603,7 @@ public final class ShyBoats {
             int at = IMAGE_HEAD + IMAGE_BOAT * boat;
             int hand = bytes[at + 3];
             boolean possible = waters.lake.isWater(bytes[at]) && bytes[at + 1] <= MOST_TRUST
-                && bytes[at + 2] <= 99 && hand <= waters.lake.hands;
+                && bytes[at + 2] <= MOST_BALKS && hand <= waters.lake.hands;
             if (!possible || hand > 0 && (hands >> hand & 1) == 1) {
                 return false;
             }
@@ -1584,7 +1586,7 @@ public final class ShyBoats {
 
         void balk(int boat) {
             if (isBoat(boat)) {
-                now[BALKED + boat] = Math.min(99, now[BALKED + boat] + 1);
+                now[BALKED + boat] = Math.min(MOST_BALKS, now[BALKED + boat] + 1);
             }
         }
 

@@ -163,6 +163,13 @@ public final class ActsTest {
         CHECKS.due("m is in c again", x.boat(2, 3), 0);
         x.undo();
         CHECKS.due("m is in a again", x.boat(0, 3), 0);
+        x.man(2, 1);
+        x.man(1, 1);
+        CHECKS.due("n left c", x.boat(2, 3), -1);
+        CHECKS.due("n is in b", x.boat(1, 3), 1);
+        x.man(1, -1);
+        CHECKS.due("m is in a yet", x.boat(0, 3), 0);
+        CHECKS.due("n is in none", x.hand(1, 1), -1);
     }
 
     private static void passingHours() {

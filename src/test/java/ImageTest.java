@@ -5,6 +5,7 @@ public final class ImageTest {
 
     public static void main(String[] args) {
         written();
+        sixBoats();
         readBack();
         refused();
         CHECKS.finish();
@@ -29,6 +30,30 @@ public final class ImageTest {
         CHECKS.due("the latest stays", x.octet(1), 44);
         CHECKS.due("without boats", x.image(), 6);
         CHECKS.due("no more", x.octet(6), -1);
+    }
+
+    private static void sixBoats() {
+        StringBuilder text = new StringBuilder("lake 8;");
+        for (int row = 0; row < 6; row++) {
+            text.append("row hhhhhhhh;");
+        }
+        int[] due = new int[29];
+        for (int boat = 0; boat < 6; boat++) {
+            char name = (char) ('a' + boat);
+            text.append("boat ").append(name).append(" trust ").append(99 - boat).append(" at ").append(7 - boat).append(" 5;");
+            text.append("hand ").append(name).append("h skill ").append(boat).append(';');
+            due[5 + 4 * boat] = 47 - boat;
+            due[6 + 4 * boat] = 99 - boat;
+            due[8 + 4 * boat] = 6 - boat;
+        }
+        ShyBoats x = Checks.onLake(text.toString());
+        for (int boat = 0; boat < 6; boat++) {
+            x.man(boat, 5 - boat);
+        }
+        image("six boats", x, Checks.sealed(due));
+        ShyBoats y = Checks.onLake(text.toString());
+        CHECKS.due("six boats on", Checks.on(y, Checks.sealed(due)), true);
+        image("six boats again", y, Checks.sealed(due));
     }
 
     private static void image(String what, ShyBoats x, int[] due) {

@@ -103,6 +103,22 @@ public final class LakeTextTest {
         faulty(1, "lake 3;row hsd |hsd;");
         faulty(1, "lake 3;row hsd;row |hs");
         faulty(1, "lake 3;|rowhsd;");
+        String[] whole = {"row hsd", "boat bob trust 5 at 0 0", "hand sue skill 1", "likes ann mac 5", "calm at 1", "rain at 1", "fog at 1",
+            "storm at 1", "dread depth + 1", "grows min ( trust , 1 )", "falls ( fear )", "coax 5"};
+        for (String statement : whole) {
+            String text = BOAT;
+            for (String word : statement.split(" ")) {
+                text += word + " ";
+                boolean ended = text.endsWith(statement + " ") || text.endsWith("dread depth ");
+                if (ended) {
+                    good(text + ";", 6);
+                } else {
+                    faulty(1, text + "|;");
+                }
+                faulty(1, text + "|");
+                faulty(1, text + "|@");
+            }
+        }
         faulty(1, ROWS + "boat a |5");
         faulty(1, ROWS + "boat a |at");
         faulty(1, ROWS + "boat a |trusty 5");
