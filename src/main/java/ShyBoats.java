@@ -420,7 +420,7 @@ public final class ShyBoats {
     }
 
     public int hours(int n) {
-        if (waters.lake.isNone() || n < 1 || n > 200) {
+        if (!canPass(n, 200)) {
             return refuse(REFUSED_ACT);
         }
         fleet.remember();
@@ -429,7 +429,7 @@ public final class ShyBoats {
     }
 
     public int drift(int n) {
-        if (waters.lake.isNone() || n < 1 || n > 50) {
+        if (!canPass(n, 50)) {
             return refuse(REFUSED_ACT);
         }
         fleet.remember();
@@ -536,6 +536,11 @@ public final class ShyBoats {
             bits |= 1 << boat;
         }
         return bits;
+    }
+
+    /** HOURS that would end behind the last one can't be, and none of them goes by. */
+    private boolean canPass(int hours, int most) {
+        return !waters.lake.isNone() && hours >= 1 && hours <= most && fleet.hour() + hours <= MOST_HOUR;
     }
 
     private int driftOnce(int boat) {
@@ -1555,7 +1560,7 @@ public final class ShyBoats {
         }
 
         void passHours(int n) {
-            now[HOUR] = Math.min(MOST_HOUR, now[HOUR] + n);
+            now[HOUR] += n;
         }
 
         void pay(int coins) {

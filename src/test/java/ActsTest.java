@@ -1,3 +1,4 @@
+import java.util.Arrays;
 import java.util.Random;
 
 /** Promises 24 to 31. */
@@ -14,6 +15,8 @@ public final class ActsTest {
         coaxing();
         manning();
         passingHours();
+        lastHours();
+        lastDrifts();
         drifting();
         driftingRefused();
         undoing();
@@ -187,13 +190,65 @@ public final class ActsTest {
         CHECKS.due("storm", x.hours(1), 3);
         CHECKS.due("hour", x.has(4), 99);
         CHECKS.due("acts", x.has(11), 4);
-        for (int n = 0; n < 5; n++) {
+        for (int n = 0; n < 4; n++) {
             CHECKS.due("storm", x.hours(200), 3);
         }
-        CHECKS.due("999 at most", x.has(4), 999);
+        CHECKS.due("hour", x.has(4), 899);
+        CHECKS.due("a lake without boats", Checks.onLake("lake 3;").hours(200), 0);
+    }
+
+    /** HOURS are 999 at most: of more that are asked for none goes by, and it is no ACT. */
+    private static void lastHours() {
+        ShyBoats x = atHour(899);
+        CHECKS.due("a hundred and one", x.hours(101), -1);
+        CHECKS.due("two hundred", x.hours(200), -1);
+        CHECKS.due("refused", x.status(3), 2);
+        CHECKS.due("the hour stays", x.has(4), 899);
+        CHECKS.due("no act", x.has(11), 0);
+        CHECKS.due("up to the last", x.hours(100), 3);
+        CHECKS.due("the last", x.has(4), 999);
+        CHECKS.due("one more", x.hours(1), -1);
+        CHECKS.due("the last yet", x.has(4), 999);
+        CHECKS.due("acts", x.has(11), 1);
+        CHECKS.due("a try there", x.go(0, 1), 1);
+        CHECKS.due("kept then", x.kept(0, 0), 999);
+        x.undo();
         x.undo();
         CHECKS.due("back", x.has(4), 899);
-        CHECKS.due("a lake without boats", Checks.onLake("lake 3;").hours(200), 0);
+        CHECKS.due("and on", x.hours(99), 3);
+        CHECKS.due("then one", x.hours(1), 3);
+        CHECKS.due("refused", x.status(3), 3);
+    }
+
+    /** The seed stays, too, where DRIFTING can't be: what follows is as without it. */
+    private static void lastDrifts() {
+        for (int n = 1; n <= 50; n++) {
+            ShyBoats x = atHour(999 - n);
+            ShyBoats y = atHour(999 - n);
+            int[] image = Checks.imageOf(x);
+            CHECKS.due("one more than there are", n == 50 ? -1 : x.drift(n + 1), -1);
+            CHECKS.due("refused", x.status(3), n == 50 ? 0 : 1);
+            CHECKS.due("no act", x.has(11), 0);
+            CHECKS.due("nothing kept", x.has(9), 0);
+            CHECKS.due("nothing changes", Arrays.equals(Checks.imageOf(x), image), true);
+            CHECKS.due("up to the last", x.drift(n), y.drift(n));
+            CHECKS.due("some can be", x.has(11), 1);
+            CHECKS.due("the last", x.has(4), 999);
+            CHECKS.due("like the other", Arrays.equals(Checks.imageOf(x), Checks.imageOf(y)), true);
+            CHECKS.due("another", x.drift(1), -1);
+            CHECKS.due("acts", x.has(11), 1);
+            x.undo();
+            CHECKS.due("back", x.has(4), 999 - n);
+        }
+    }
+
+    private static ShyBoats atHour(int hour) {
+        ShyBoats x = Checks.onLake(LAKE);
+        int[] image = Checks.imageOf(x);
+        image[0] = hour / 256;
+        image[1] = hour % 256;
+        CHECKS.due("at the hour", Checks.on(x, Checks.sealed(Arrays.copyOf(image, image.length - 1))), true);
+        return x;
     }
 
     private static long drawn;

@@ -87,10 +87,20 @@ public final class ImageTest {
         CHECKS.due("nothing can be undone", x.undo(), false);
         CHECKS.due("nothing is kept", x.kept(0, 0), -1);
         image("again", x, most);
-        ShyBoats y = Checks.onLake(LAKE);
-        y.seed(5);
-        Checks.on(y, most);
-        CHECKS.due("the seed stays", x.drift(9), y.drift(9));
+        theSeedStays();
+    }
+
+    private static void theSeedStays() {
+        for (int seed = 2; seed < 40; seed++) {
+            ShyBoats x = Checks.onLake(LAKE);
+            ShyBoats y = Checks.onLake(LAKE);
+            x.seed(seed);
+            CHECKS.due("on", Checks.on(x, with(-1, 0)), true);
+            Checks.on(y, with(-1, 0));
+            y.seed(seed);
+            CHECKS.due("the seed stays", x.drift(9), y.drift(9));
+            CHECKS.due("all alike", java.util.Arrays.equals(Checks.imageOf(x), Checks.imageOf(y)), true);
+        }
     }
 
     private static int[] with(int place, int octet) {
