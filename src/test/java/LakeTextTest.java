@@ -17,29 +17,11 @@ public final class LakeTextTest {
     }
 
     private static void good(String text, int statements) {
-        ShyBoats x = new ShyBoats();
-        CHECKS.due("lake of " + text, Checks.lake(x, text), statements);
-        CHECKS.due("fault of " + text, x.fault(0), 0);
-        CHECKS.due("place of " + text, x.fault(1), -1);
-        CHECKS.due("the tape goes: " + text, x.end(1), false);
+        CHECKS.goodLake(text, statements);
     }
 
-    private static void faulty(String text, int fault, int place) {
-        ShyBoats x = new ShyBoats();
-        CHECKS.due("lake of " + text, Checks.lake(x, text), -1);
-        CHECKS.due("fault of " + text, x.fault(0), fault);
-        CHECKS.due("place in " + text, x.fault(1), place);
-        CHECKS.due("other of " + text, x.fault(2), -1);
-        CHECKS.due("below of " + text, x.fault(-1), -1);
-        CHECKS.due("refused: " + text, x.status(1), 1);
-        CHECKS.due("the tape goes: " + text, x.end(1), false);
-        CHECKS.due("no lake: " + text, x.has(0), 0);
-    }
-
-    /** A FAULT at the first place of what stands behind |, which is no part of the text. */
-    private static void faulty(int fault, String text) {
-        int place = text.indexOf('|');
-        faulty(text.substring(0, place) + text.substring(place + 1), fault, place);
+    private static void faulty(int fault, String marked) {
+        CHECKS.faultyLake(fault, marked);
     }
 
     private static void goodTexts() {

@@ -56,17 +56,8 @@ public final class QuestionTest {
         CHECKS.due("none", ShyBoats.NONE, -1);
     }
 
-    /** A FAULT at the first place of what stands behind |, which is no part of the text. */
-    private static void faulty(int fault, String text) {
-        int place = text.indexOf('|');
-        ShyBoats x = Checks.onLake(LAKE);
-        CHECKS.due(text, Checks.ask(x, 0, text.substring(0, place) + text.substring(place + 1)), ShyBoats.NOTHING);
-        CHECKS.due("fault of " + text, x.fault(0), fault);
-        CHECKS.due("place in " + text, x.fault(1), place);
-        CHECKS.due("the tape goes: " + text, x.end(1), false);
-        CHECKS.due("none refused: " + text, x.status(1), 0);
-        CHECKS.due("good then", Checks.ask(x, 0, "often all"), 12);
-        CHECKS.due("no fault then", x.fault(0), 0);
+    private static void faulty(int fault, String marked) {
+        CHECKS.faultyQuestion(Checks.onLake(LAKE), fault, marked);
     }
 
     private static void faults() {
