@@ -218,6 +218,13 @@ public final class EdgesCompanyTest {
         matched("of like ones the first boat has the first hand", like, 0, 1);
         matched("of like ones the first boat has whom both like", like + "likes a n 1;likes b n 99;", 1, 0);
         matched("one hand", "boat a trust 10 at 0 0;boat b trust 11 at 0 0;boat c trust 11 at 0 0;hand m skill 0;", -1, 0, -1);
+        matched("one hand, and the last trusts most", "boat a trust 10 at 0 0;boat b trust 11 at 0 0;boat c trust 12 at 0 0;hand m skill 0;", -1, -1, 0);
+        // c has n; then a, and none but a, comes to m behind b
+        String three = "boat a trust 10 at 0 0;boat b trust 10 at 0 0;boat c trust 30 at 0 0;hand m skill 0;hand n skill 0;hand o skill 0;"
+            + "likes a n 9;likes a m 5;likes b m 9;likes c n 9;";
+        matched("of like ones the first boat, though it comes last", three, 0, 2, 1);
+        matched("who trusts less, though it comes last", three.replace("boat a trust 10", "boat a trust 9"), 2, 0, 1);
+        matched("who trusts more, though it comes last", three.replace("boat a trust 10", "boat a trust 11"), 0, 2, 1);
         matched("one boat", "boat a trust 0 at 0 0;hand m skill 0;hand n skill 0;hand o skill 0;likes a n 1;likes a o 1;", 1);
     }
 
@@ -404,6 +411,14 @@ public final class EdgesCompanyTest {
         ShyBoats v = Checks.onLake("lake 3;row llh;row lll;boat a trust 5 at 2 0;");
         Checks.trials(v, 0, 2, 1);
         next("one cell that is no land", v, 2, 100);
+        ShyBoats u = Checks.onLake("lake 8;" + "row hhhhhhhh;".repeat(6) + "boat a trust 5 at 0 0;dread home;");
+        Checks.trials(u, 0, 47, 1);
+        next("none beyond the last cell", u, 0, 100);
+        ShyBoats t = Checks.onLake("lake 8;" + "row hhhhhhhh;".repeat(5) + "row hhhhhhhs;boat a trust 5 at 0 0;dread depth*50;");
+        Checks.trials(t, 0, 47, 1, 0, 1);
+        trusts("by the last cell", t, 50, 50, 99);
+        Checks.trials(t, 0, 0, 1);
+        next("the last cell", t, 47, 50);
     }
 
     private static void nextTold() {

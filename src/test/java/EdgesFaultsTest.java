@@ -249,6 +249,19 @@ public final class EdgesFaultsTest {
             }
             CHECKS.faultyLake(1, text + "|?;");
         }
+        // a STATEMENT that ends too soon, though the text goes on
+        for (String statement : STATEMENTS) {
+            StringBuilder text = new StringBuilder(NAMED);
+            String[] tokens = tokensOf(statement);
+            boolean sum = "dread grows falls".contains(tokens[0]);
+            for (int i = 0; i < (sum ? 1 : tokens.length - 1); i++) {
+                text.append(tokens[i]).append(' ');
+                CHECKS.faultyLake(1, text + "|;");
+                CHECKS.faultyLake(1, text + "|;coax 5;");
+            }
+        }
+        CHECKS.faultyLake(1, "lake |;");
+        CHECKS.faultyLake(1, "lake |;row hsd;");
         CHECKS.faultyLake(1, "lake |-3;");
         CHECKS.faultyLake(1, "lake |+3;");
         CHECKS.faultyLake(1, "lake 3|.5;");

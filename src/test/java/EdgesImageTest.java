@@ -67,6 +67,7 @@ public final class EdgesImageTest {
         x.man(1, 0);
         image("both, and their hands", x, 1, 0, 0, 1, 0, 3, 99, 0, 2, 5, 5, 1, 1);
         Checks.on(x, Checks.sealed(3, 231, 0, 255, 255, 3, 99, 99, 2, 5, 99, 99, 1));
+        image("65535 coins", x, 3, 231, 0, 255, 255, 3, 99, 99, 2, 5, 99, 99, 1);
         x.coax(0, 1);
         image("65536 coins", x, 3, 231, 1, 0, 0, 3, 99, 99, 2, 5, 99, 99, 1);
         Checks.on(x, Checks.sealed(3, 231, 15, 66, 63, 3, 99, 99, 2, 5, 99, 99, 1));

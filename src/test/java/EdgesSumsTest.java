@@ -164,6 +164,17 @@ public final class EdgesSumsTest {
         ShyBoats y = Checks.onLake("lake 3;row hsd;boat a trust 20 at 0 0;dread 22;grows trust*2+fear;falls trust+fear/2;");
         CHECKS.due("balks", y.go(0, 1), 0);
         CHECKS.due("20 + 11", y.boat(0, 1), 31);
+        // without a SUM of dread the words are of the CELL that it tries, too
+        String words = "depth*20+wreck*10+home+sky*2+skill";
+        ShyBoats v = Checks.onLake("lake 3;row hsw;boat a trust 10 at 0 0;hand m skill 7;fog at 0;grows " + words + ";falls " + words + "+balks;");
+        v.man(0, 0);
+        CHECKS.due("goes", v.go(0, 1), 1);
+        CHECKS.due("20 + 1 + 4 + 7", v.boat(0, 1), 32);
+        CHECKS.due("goes", v.go(0, 2), 1);
+        CHECKS.due("40 + 10 + 2 + 4 + 7", v.boat(0, 1), 63);
+        ShyBoats u = Checks.onLake("lake 3;row hsw;boat a trust 9 at 0 0;hand m skill 7;fog at 0;falls 0-50+fear*5+" + words + "+balks;");
+        CHECKS.due("balks", u.go(0, 1), 0);
+        CHECKS.due("20 + 1 + 4", u.boat(0, 1), 25);
         ShyBoats z = Checks.onLake("lake 3;row hsd;boat a trust 20 at 0 0;dread 5000;falls fear;");
         z.go(0, 1);
         CHECKS.due("fear is 99 at most, as DREAD is", z.boat(0, 1), 99);

@@ -17,6 +17,7 @@ public final class EdgesTapeTest {
         lakeWithFault();
         lakeWithoutStatement();
         lakeAnew();
+        lakeBehindOthers();
         seedStaysWithALake();
         faultTold();
         faultOfAnotherWhat();
@@ -210,6 +211,49 @@ public final class EdgesTapeTest {
         ShyBoats z = Checks.onLake(LAKE + "falls 70;");
         Checks.lake(z, LAKE);
         CHECKS.due("nor of its falls", z.go(1, 1) * 100 + z.boat(1, 1), 5);
+    }
+
+    private static String richText() {
+        StringBuilder text = new StringBuilder("lake 8;").append("row hhhhhhhh;".repeat(6));
+        for (int i = 0; i < 6; i++) {
+            char boat = (char) ('a' + i);
+            char hand = (char) ('m' + i);
+            text.append("boat ").append(boat).append(" trust 9 at 7 5;hand ").append(hand).append(" skill 9;");
+            text.append("likes a ").append(hand).append(" 9;likes ").append(boat).append(" m 9;");
+        }
+        for (int hour = 0; hour < 10; hour++) {
+            text.append("storm at ").append(hour).append(';');
+        }
+        return text.append("dread 50;grows 60;falls 70;coax 50;").toString();
+    }
+
+    /** However many LAKES and faulty texts there were, nothing of them is left in the next one. */
+    private static void lakeBehindOthers() {
+        CHECKS.holds("Promise 4", "Without one all is as at first,");
+        String plain = "lake 3;row hsd;row slh;boat a trust 15 at 0 0;hand m skill 2;fog at 5;";
+        String rich = richText();
+        String faulty = rich + "x";
+        String[][] others = {{rich}, {rich, rich}, {rich, rich, rich}, {faulty}, {faulty, faulty}, {rich, faulty}, {faulty, rich}, {plain, faulty},
+            {plain, rich}, {rich, plain, faulty}, {rich, faulty, rich}};
+        for (String[] row : others) {
+            ShyBoats x = new ShyBoats();
+            for (String text : row) {
+                CHECKS.due("statements", Checks.lake(x, text), text.equals(rich) ? 45 : text.equals(plain) ? 6 : -1);
+            }
+            CHECKS.due("statements", Checks.lake(x, plain), 6);
+            CHECKS.due("all is as at first", Checks.stateOf(x).equals(Checks.stateOf(Checks.onLake(plain))), true);
+            CHECKS.due("likes", x.likes(0, 0), 0);
+            CHECKS.due("sky", 100 * x.sky(0) + 10 * x.sky(4) + x.sky(5), 2);
+            CHECKS.due("dread", x.dread(0, 2, -1), 20);
+            CHECKS.due("coin", x.coax(0, 1), 20);
+            x.undo();
+            CHECKS.due("goes", x.go(0, 1), 1);
+            CHECKS.due("grows not", x.boat(0, 1), 15);
+            CHECKS.due("balks", x.go(0, 2), 0);
+            CHECKS.due("falls not", x.boat(0, 1), 15);
+            CHECKS.due("cells", x.cell(6, 0), -1);
+            CHECKS.due("home", x.cell(2, 2), 1);
+        }
     }
 
     private static void seedStaysWithALake() {

@@ -135,6 +135,9 @@ public final class EdgesWaysTest {
         row("through the deep, as that is shorter", w, 0, 3, 1, 2, 3);
         ShyBoats v = Checks.onLake("lake 3;row shs;row lls;row sss;boat a trust 10 at 1 0;");
         row("the one way that leads there, not the first cell", v, 0, 6, 2, 5, 8, 7, 6);
+        ShyBoats u = Checks.onLake("lake 3;row hsl;row hll;row hll;boat a trust 10 at 0 2;");
+        row("through cell 0", u, 0, 1, 3, 0, 1);
+        CHECKS.due("the gentlest through cell 0", u.gentle(0, 1, 0), 10);
     }
 
     private static void longRoute() {
@@ -148,6 +151,11 @@ public final class EdgesWaysTest {
         CHECKS.due("no more", x.route(0, 47, 26), -1);
         ShyBoats y = Checks.onLake("lake 8;" + "row hhhhhhhh;".repeat(6) + "boat a trust 0 at 0 0;");
         CHECKS.due("from corner to corner", y.route(0, 47, -1), 12);
+        CHECKS.due("the gentlest from corner to corner", y.gentle(0, 47, 0), 0);
+        ShyBoats back = put("lake 8;" + "row hhhhhhhh;".repeat(6) + "boat a trust 0 at 0 0;", 47);
+        CHECKS.due("back", back.route(0, 0, -1), 12);
+        CHECKS.due("its first cell", back.route(0, 0, 0), 39);
+        CHECKS.due("the gentlest back", back.gentle(0, 0, 0), 0);
         // no way leads over the edge into the next row
         ShyBoats z = Checks.onLake("lake 3;row llh;row hll;boat a trust 0 at 2 0;");
         CHECKS.due("no wrap-around", z.route(0, 3, -1), -1);

@@ -2,6 +2,7 @@ import java.io.IOException;
 import java.nio.file.Files;
 import java.nio.file.Path;
 import java.util.ArrayList;
+import java.util.Arrays;
 import java.util.LinkedHashMap;
 import java.util.List;
 import java.util.Map;
@@ -22,11 +23,16 @@ public final class SentencesTest {
         {"Constants", "\nThe constants:", "\nAhead of the calls"}};
 
     public static void main(String[] args) throws IOException {
-        String document = Files.readString(Path.of("../shared/DOC.md"));
+        Path path = Path.of("../shared/DOC.md");
+        if (!Files.isReadable(path)) {
+            System.out.println("no document at " + path + ": its sentences were not looked for");
+            return;
+        }
+        String document = Files.readString(path);
         Map<String, String> sections = sectionsOf(document);
         Map<String, List<String>> held = new LinkedHashMap<>();
         try (Stream<Path> files = Files.list(Path.of("src/test/java"))) {
-            for (Path file : files.filter(path -> path.getFileName().toString().startsWith("Edges")).sorted().toList()) {
+            for (Path file : files.filter(one -> one.getFileName().toString().startsWith("Edges")).sorted().toList()) {
                 collect(Files.readString(file), held);
             }
         }
@@ -78,12 +84,12 @@ public final class SentencesTest {
         CHECKS.due("sentences that can be read", calls, source.split("CHECKS\\.holds\\(", -1).length - 1);
     }
 
-    /** What is left of a section when all that is held has been struck out; a few words that only join do not count. */
+    /** The words of a section that are left when all that is held has been struck out. */
     private static String without(String section, List<String> sentences) {
         boolean[] struck = new boolean[section.length()];
         for (String sentence : sentences) {
             for (int at = section.indexOf(sentence); at >= 0; at = section.indexOf(sentence, at + 1)) {
-                java.util.Arrays.fill(struck, at, at + sentence.length(), true);
+                Arrays.fill(struck, at, at + sentence.length(), true);
             }
         }
         StringBuilder left = new StringBuilder();
