@@ -315,6 +315,26 @@ public final class EdgesActsTest {
         x.man(0, -1);
         crew("n out", x, -1, -1, -1);
         CHECKS.due("six acts", x.has(11), 6);
+        // of six BOATS with all that an image can tell of them nothing else changes
+        StringBuilder text = new StringBuilder("lake 3;row hsd;");
+        int[] image = new int[29];
+        for (int boat = 0; boat < 6; boat++) {
+            text.append("boat ").append((char) ('a' + boat)).append(" trust 9 at 0 0;hand ").append((char) ('m' + boat)).append(" skill 1;");
+            int[] told = {2, 80 + boat, 90 + boat, boat == 2 ? 0 : 6 - boat};
+            System.arraycopy(told, 0, image, 5 + 4 * boat, 4);
+        }
+        int[][] rows = {{0, 3}, {0, -1}, {5, 3}, {5, 5}, {5, -1}, {2, 5}, {2, 0}};
+        for (int[] row : rows) {
+            ShyBoats y = Checks.onLake(text.toString());
+            Checks.on(y, Checks.sealed(image));
+            y.man(row[0], row[1]);
+            int[] due = image.clone();
+            for (int boat = 0; boat < 6; boat++) {
+                int hand = 8 + 4 * boat;
+                due[hand] = boat == row[0] ? row[1] + 1 : due[hand] == row[1] + 1 ? 0 : due[hand];
+            }
+            CHECKS.due("nothing but hands " + Arrays.toString(row), Arrays.equals(Checks.imageOf(y), Checks.sealed(due)), true);
+        }
     }
 
     private static void manTold() {
@@ -511,27 +531,33 @@ public final class EdgesActsTest {
         CHECKS.refused("no lake", z, 3, () -> z.drift(1));
     }
 
+    private static void act(ShyBoats x, int n) {
+        switch (n) {
+            case 0: x.go(0, 1); break;
+            case 1: x.go(1, 1); break;
+            case 2: Checks.file(x, 2, 2); break;
+            case 3: x.coax(1, 2); break;
+            case 4: x.man(1, 1); break;
+            case 5: x.hours(7); break;
+            default: x.drift(7); break;
+        }
+    }
+
     private static void acts() {
         CHECKS.holds("II", "ACTS: a BOAT TRIES a CELL; a FILE;");
-        ShyBoats x = Checks.onLake(LAKE);
-        String[] states = new String[7];
         for (int n = 0; n < 7; n++) {
-            states[n] = Checks.stateOf(x);
-            CHECKS.due("acts", x.has(11), n);
-            switch (n) {
-                case 0: x.go(0, 1); break;
-                case 1: x.go(1, 1); break;
-                case 2: Checks.file(x, 2, 2); break;
-                case 3: x.coax(1, 2); break;
-                case 4: x.man(1, 1); break;
-                case 5: x.hours(7); break;
-                default: x.drift(7); break;
+            ShyBoats x = Checks.onLake(LAKE);
+            for (int earlier = 0; earlier < n; earlier++) {
+                act(x, earlier);
             }
+            String before = Checks.stateOf(x);
+            act(x, n);
+            CHECKS.due("acts with act " + n, x.has(11), n + 1);
+            CHECKS.due("act " + n + " changes something", Checks.stateOf(x).equals(before), false);
+            CHECKS.due("act " + n + " is undone", x.undo(), true);
+            CHECKS.due("as ahead of act " + n, Checks.stateOf(x).equals(before), true);
         }
-        for (int n = 6; n >= 0; n--) {
-            CHECKS.due("undo " + n, x.undo(), true);
-            CHECKS.due("as ahead of act " + n, Checks.stateOf(x).equals(states[n]), true);
-        }
+        ShyBoats x = Checks.onLake(LAKE);
         // telling, asking, seeds and images are none
         Checks.trials(x, 0, 1, 1);
         Checks.ask(x, 0, "often all");

@@ -58,11 +58,11 @@ public final class EdgesCompanyTest {
             text.append("boat ").append((char) ('a' + boat)).append(" trust ").append(boat == 3 ? 60 : 40 - boat).append(" at 0 0;");
         }
         ShyBoats y = Checks.onLake(text.toString());
-        CHECKS.due("six, as many as can", y.order(63, 1, -1), bestBySending(y, 63));
+        CHECKS.due("six, as many as can", y.order(63, 1, -1), bestBySending(text.toString(), 63));
     }
 
-    /** The most that go of all rows, each sent as a FILE and undone. */
-    private static int bestBySending(ShyBoats x, int boats) {
+    /** The most that go of all rows, each sent as a FILE. */
+    private static int bestBySending(String text, int boats) {
         int[] all = new int[Integer.bitCount(boats)];
         int n = 0;
         for (int boat = 0; boat < 6; boat++) {
@@ -70,21 +70,19 @@ public final class EdgesCompanyTest {
                 all[n++] = boat;
             }
         }
-        return bestBehind(x, all, 0);
+        return bestBehind(text, all, 0);
     }
 
-    private static int bestBehind(ShyBoats x, int[] row, int from) {
+    private static int bestBehind(String text, int[] row, int from) {
         if (from == row.length) {
-            int gone = Checks.file(x, 1, row);
-            x.undo();
-            return gone;
+            return Checks.file(Checks.onLake(text), 1, row);
         }
         int best = 0;
         for (int i = from; i < row.length; i++) {
             int[] other = row.clone();
             other[from] = row[i];
             other[i] = row[from];
-            best = Math.max(best, bestBehind(x, other, from + 1));
+            best = Math.max(best, bestBehind(text, other, from + 1));
         }
         return best;
     }

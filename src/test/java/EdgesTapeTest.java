@@ -126,16 +126,16 @@ public final class EdgesTapeTest {
 
     private static void endRefused() {
         CHECKS.holds("Promise 3", "false, refused (0), if it has not so many, or n is below 0.");
-        ShyBoats x = busy();
         for (int n : new int[] {1, -1, 1600, Integer.MAX_VALUE, Integer.MIN_VALUE}) {
+            ShyBoats x = busy();
             CHECKS.refusedFlag("end of " + n + ", none there", x, 0, () -> x.end(n));
         }
-        ShyBoats y = busy();
-        Checks.text(y, "often all");
         for (int n : new int[] {10, -1, 20, 1601, Integer.MAX_VALUE, Integer.MIN_VALUE}) {
+            ShyBoats y = busy();
+            Checks.text(y, "often all");
             CHECKS.refusedFlag("end of " + n + ", nine there", y, 0, () -> y.end(n));
+            CHECKS.due("the tape stays", y.ask(0), 6);
         }
-        CHECKS.due("the tape stays", y.ask(0), 6);
     }
 
     private static void lakeTakesTheTape() {
